@@ -205,21 +205,20 @@ public final class StructuralTypes {
 
     private boolean recordRuleHolds(int s, int t) {
         for (int label = 0; label < LABELS; label++) {
-            if (!fieldRuleHolds(s * LABELS + label, t * LABELS + label)) {
+            int ofS = s * LABELS + label;
+            int ofT = t * LABELS + label;
+            if (!present[ofT]) {
+                continue;
+            }
+            // A missing field is not below an optional one: the document asks that both have it.
+            if (!present[ofS] || (optional[ofS] && !optional[ofT])) {
+                return false;
+            }
+            if (!isBelow(fieldTypes[ofS], fieldTypes[ofT])) {
                 return false;
             }
         }
         return true;
-    }
-
-    private boolean fieldRuleHolds(int ofS, int ofT) {
-        if (!present[ofT]) {
-            return true;
-        }
-        if (!present[ofS] || (optional[ofS] && !optional[ofT])) {
-            return false;
-        }
-        return isBelow(fieldTypes[ofS], fieldTypes[ofT]);
     }
 
     /** Equivalence is transitive, so as many kinds exist as types with no equivalent before them. */
